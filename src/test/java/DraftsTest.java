@@ -13,11 +13,13 @@ public final class DraftsTest {
         status();
         done();
         numbers();
+        ofTwelveAnswers();
         logic();
         choiceAndCounts();
         copy();
         join();
         joinIntoItsOwn();
+        twelveAtOdds();
         seal();
         sealsFull();
         locks();
@@ -186,6 +188,8 @@ public final class DraftsTest {
         int zero = x.part(0, 0, 0, 0);
         x.rule(1, 0, zero);
         check.due("hidden, so not needed", x.done(3), 1);
+        x.rule(0, 1, 0);
+        check.due("the first is needed", x.done(3), 0);
         for (int wild : WILD_DRAFTS) {
             check.due("draft " + wild, x.done(wild), -1);
         }
@@ -216,6 +220,28 @@ public final class DraftsTest {
         for (int wild : new int[] {LOW, -9, -1, 17, 50, TOP}) {
             check.due("part " + wild, x.value(0, wild), LOST);
         }
+    }
+
+    /** A chain of made fields against their numbers' order, and a part of all answers that there can be. */
+    private static void ofTwelveAnswers() {
+        ThinkingForm x = new ThinkingForm();
+        int sum = x.part(0, 0, 0, 0);
+        for (int f = 0; f < 12; f++) {
+            x.field(0, 9, f == 11 ? 0 : 1);
+            sum = x.part(2, sum, x.part(1, f, 0, 0), 0);
+        }
+        for (int f = 0; f < 11; f++) {
+            check.due("made of the next", x.rule(f, 3, 2 * f + 3), 1);
+        }
+        check.due("MISSING at first", x.value(0, sum), LOST);
+        check.due("eleven hang on it", x.answer(0, 11, 3), 11);
+        check.due("of all twelve", x.value(0, sum), 36);
+        check.due("through all of them", x.counts(0, 0), 3);
+        x.rule(6, 0, x.part(0, 0, 0, 0));
+        check.due("one in the middle is hidden", x.counts(0, 0), LOST);
+        check.due("it is kept", x.kept(0, 6), 3);
+        check.due("what is made of it is MISSING", x.kept(0, 5), LOST);
+        check.due("MISSING by one", x.value(0, sum), LOST);
     }
 
     /** All pairs of MISSING, 0 and two other numbers, by each kind of part. */
@@ -363,6 +389,23 @@ public final class DraftsTest {
             check.due("locked", x.join(0, 0, 0, 3), -3);
             check.due("UNKNOWN ahead of STATE", x.join(4, 0, 0, 3), -1);
         }
+    }
+
+    private static void twelveAtOdds() {
+        ThinkingForm x = new ThinkingForm();
+        for (int f = 0; f < 12; f++) {
+            x.field(0, 9, 0);
+            x.answer(1, f, 1);
+            x.answer(2, f, 2);
+        }
+        check.due("all at odds", x.join(0, 1, 2, 3), 12);
+        for (int f = 0; f < 12; f++) {
+            check.due("at odds by number", x.odds(f), f);
+            check.due("that of b", x.kept(3, f), 1);
+        }
+        check.due("no thirteenth", x.odds(12), -1);
+        check.due("all of them", x.told(13), 12);
+        check.due("all become other", x.copy(2, 3), 12);
     }
 
     private static void seal() {

@@ -17,6 +17,7 @@ public final class FieldsTest {
         ringLeastOfSeveral();
         ringByMakeAndShow();
         ringPassesDeadEnds();
+        ringOfTwelve();
         about();
         hangs();
         check.end();
@@ -262,6 +263,22 @@ public final class FieldsTest {
             check.due("1 does not come back " + i, x.ring(i), want[i]);
         }
         check.due("its end", x.ring(3), -1);
+    }
+
+    private static void ringOfTwelve() {
+        ThinkingForm x = fieldsWithAnswers(12, 1);
+        for (int f = 0; f < 11; f++) {
+            x.rule(f, f % 2 * 3, f + 1);
+            check.due("all before hang on " + (f + 1), x.about(f + 1, 8), f + 1);
+        }
+        check.due("the last by the first", x.rule(11, 3, 0), -3);
+        check.due("starts at its field", x.ring(0), 11);
+        for (int i = 1; i < 12; i++) {
+            check.due("ring of twelve " + i, x.ring(i), i - 1);
+        }
+        check.due("ends", x.ring(12), -1);
+        check.due("0 hangs on eleven", x.about(0, 7), 11);
+        check.due("0 hangs on the last", x.hangs(0, 11), 1);
     }
 
     private static void about() {

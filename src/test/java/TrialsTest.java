@@ -126,6 +126,9 @@ public final class TrialsTest {
         check.due("what was found stays", x.found(1), 2);
         check.due("another field later", x.field(0, 1, 0), 3);
         check.due("is not in the row", x.found(3), LOST);
+        ThinkingForm y = new ThinkingForm();
+        y.field(0, 1, 0);
+        check.due("nothing is found ahead of any", y.found(0), LOST);
     }
 
     /** A field shown by the product of fields that may be answered in so many ways, none among them. */
@@ -146,6 +149,8 @@ public final class TrialsTest {
         ThinkingForm x = productForm(100, 200);
         check.due("20000 rows", x.reach(2), 0);
         check.due("20000 rows", x.tried(), 20000);
+        x = productForm(100, 200, 2);
+        check.due("40000 rows", x.reach(3), -6);
         x = productForm(177, 113);
         check.due("20001 rows", x.reach(2), -6);
         check.due("20001 rows", x.tried(), 0);
