@@ -542,6 +542,8 @@ public final class ThinkingForm {
         final int[] steps = new int[MOST_PARTS + MOST_FIELDS];
         /** Bits of the fields whose answers can change what a step works out. */
         final int[] movers = new int[MOST_PARTS + MOST_FIELDS];
+        /** Bits of the fields that a part is of, and of those on which they hang. */
+        private final int[] rests = new int[MOST_PARTS];
         int stepCount;
 
         /** Bits of the fields whose answers SHOW and MAKE of a field would be of, if it had this rule. */
@@ -563,12 +565,14 @@ public final class ThinkingForm {
          * its parts rest on. So what rests on fewer fields comes first; of as many, parts by number, then fields.
          */
         void arrange() {
+            for (int p = 0; p < parts.count; p++) {
+                rests[p] = fields.spread(parts.answersOf[p]);
+            }
             stepCount = 0;
             for (int many = 0; many <= MOST_FIELDS; many++) {
                 for (int p = 0; p < parts.count; p++) {
-                    int rests = fields.spread(parts.answersOf[p]);
-                    if (Integer.bitCount(rests) == many) {
-                        addStep(p, rests);
+                    if (Integer.bitCount(rests[p]) == many) {
+                        addStep(p, rests[p]);
                     }
                 }
                 for (int f = 0; f < fields.count; f++) {
