@@ -174,7 +174,7 @@ public final class FieldsTest {
     }
 
     private static void ruleReplaced() {
-        ThinkingForm x = fieldsWithAnswers(3, 1);
+        ThinkingForm x = Forms.withAnswers(3, 1);
         check.due("0 by 1", x.rule(0, 0, 1), 1);
         check.due("1 by 0 is a ring", x.rule(1, 0, 0), -3);
         check.due("0 by 2 in place of 1", x.rule(0, 0, 2), 1);
@@ -188,7 +188,7 @@ public final class FieldsTest {
     }
 
     private static void ring() {
-        ThinkingForm x = fieldsWithAnswers(4, 0);
+        ThinkingForm x = Forms.withAnswers(4, 0);
         check.due("no ring yet", x.ring(0), -1);
         x.rule(1, 0, 0);
         x.rule(2, 0, 1);
@@ -216,7 +216,7 @@ public final class FieldsTest {
     }
 
     private static void ringLeastOfSeveral() {
-        ThinkingForm x = fieldsWithAnswers(6, 0);
+        ThinkingForm x = Forms.withAnswers(6, 0);
         x.rule(5, 0, 0);
         x.rule(4, 0, 5);
         x.rule(3, 0, 4);
@@ -236,7 +236,7 @@ public final class FieldsTest {
     }
 
     private static void ringByMakeAndShow() {
-        ThinkingForm x = fieldsWithAnswers(4, 1);
+        ThinkingForm x = Forms.withAnswers(4, 1);
         x.rule(3, 3, 0);
         x.rule(1, 0, 3);
         check.due("a show and a make", x.rule(0, 3, 1), -3);
@@ -252,7 +252,7 @@ public final class FieldsTest {
     }
 
     private static void ringPassesDeadEnds() {
-        ThinkingForm x = fieldsWithAnswers(5, 0);
+        ThinkingForm x = Forms.withAnswers(5, 0);
         int threeOne = x.part(7, 1, 3, 0);
         x.rule(4, 0, threeOne);
         x.rule(3, 0, 2);
@@ -266,7 +266,7 @@ public final class FieldsTest {
     }
 
     private static void ringOfTwelve() {
-        ThinkingForm x = fieldsWithAnswers(12, 1);
+        ThinkingForm x = Forms.withAnswers(12, 1);
         for (int f = 0; f < 11; f++) {
             x.rule(f, f % 2 * 3, f + 1);
             check.due("all before hang on " + (f + 1), x.about(f + 1, 8), f + 1);
@@ -306,7 +306,7 @@ public final class FieldsTest {
     }
 
     private static void hangs() {
-        ThinkingForm x = fieldsWithAnswers(5, 1);
+        ThinkingForm x = Forms.withAnswers(5, 1);
         x.rule(1, 0, 0);
         x.rule(2, 3, 1);
         int whether = x.part(10, 2, 0, 0);
@@ -328,15 +328,5 @@ public final class FieldsTest {
             check.due("hangs of " + wild, x.hangs(wild, 0), -1);
             check.due("hangs on " + wild, x.hangs(0, wild), -1);
         }
-    }
-
-    /** Fields 0 .. 9 of a kind, and parts of the same numbers that are their answers. */
-    private static ThinkingForm fieldsWithAnswers(int many, int kind) {
-        ThinkingForm x = new ThinkingForm();
-        for (int f = 0; f < many; f++) {
-            x.field(0, 9, kind);
-            x.part(1, f, 0, 0);
-        }
-        return x;
     }
 }

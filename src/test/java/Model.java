@@ -12,6 +12,10 @@ import java.util.TreeSet;
  */
 final class Model {
     static final int LOST = -2000000000;
+    /** The calls in the order of the document's face. */
+    static final String[] NAMES = {"field", "part", "rule", "ring", "about", "hangs", "answer", "clear", "kept", "counts",
+        "status", "done", "value", "copy", "join", "odds", "seal", "open", "sealed", "reach", "found", "tried",
+        "told", "tell", "address", "trace"};
 
     private record Part(int kind, int a, int b, int c) { }
 
@@ -479,9 +483,6 @@ final class Model {
     }
 
     static String show(int number, int[] x) {
-        String[] names = {"field", "part", "rule", "ring", "about", "hangs", "answer", "clear", "kept", "counts",
-            "status", "done", "value", "copy", "join", "odds", "seal", "open", "sealed", "reach", "found", "tried",
-            "told", "tell", "address", "trace"};
-        return names[number] + Arrays.toString(x);
+        return NAMES[number] + Arrays.toString(x);
     }
 }

@@ -131,32 +131,18 @@ public final class TrialsTest {
         check.due("nothing is found ahead of any", y.found(0), LOST);
     }
 
-    /** A field shown by the product of fields that may be answered in so many ways, none among them. */
-    private static ThinkingForm productForm(int... ways) {
-        ThinkingForm x = new ThinkingForm();
-        x.part(0, 0, 0, 0);
-        int product = 0;
-        for (int f = 0; f < ways.length; f++) {
-            x.field(0, ways[f] - 2, 0);
-            product = x.part(4, product, x.part(1, f, 0, 0), 0);
-        }
-        int shown = x.field(0, 1, 0);
-        x.rule(shown, 0, product);
-        return x;
-    }
-
     private static void spent() {
-        ThinkingForm x = productForm(100, 200);
+        ThinkingForm x = Forms.neverShown(100, 200);
         check.due("20000 rows", x.reach(2), 0);
         check.due("20000 rows", x.tried(), 20000);
-        x = productForm(100, 200, 2);
+        x = Forms.neverShown(100, 200, 2);
         check.due("40000 rows", x.reach(3), -6);
-        x = productForm(177, 113);
+        x = Forms.neverShown(177, 113);
         check.due("20001 rows", x.reach(2), -6);
         check.due("20001 rows", x.tried(), 0);
-        x = productForm(1002, 1002, 1002, 1002, 1002, 1002, 1002, 1002, 1002, 1002, 1002);
+        x = Forms.neverShown(1002, 1002, 1002, 1002, 1002, 1002, 1002, 1002, 1002, 1002, 1002);
         check.due("rows beyond all numbers", x.reach(11), -6);
-        x = productForm(2, 2, 2, 2, 2, 2, 2, 2, 2, 2, 2);
+        x = Forms.neverShown(2, 2, 2, 2, 2, 2, 2, 2, 2, 2, 2);
         check.due("2048 rows", x.reach(11), 0);
         check.due("2048 rows", x.tried(), 2048);
         ThinkingForm y = new ThinkingForm();
