@@ -81,7 +81,7 @@ final class EdgesOfSeals {
     }
 
     private void lockedWithoutAnAnswer() {
-        // The words name the field in the seal and no answer that it must have had: none is locked as well.
+        // A reading: the words name the field in the seal and ask for no answer in it, so that none is locked as well.
         edge.of(0, "The ANSWER of an ASKED FIELD in a SEAL of its DRAFT");
         ThinkingForm x = Forms.withAnswers(1, 0);
         x.seal(0, 1);

@@ -398,7 +398,7 @@ final class EdgesOfTrials {
     }
 
     private void bodiesAsTheyBegin() {
-        // What MADE gives is made of what ASKED gives, so that body begins behind it; the one of NEED is ahead of both.
+        // A reading: "what ASKED gives" is had from its body, which begins behind that of MADE; that of NEED is ahead of both.
         edge.of(0, "as they begin:");
         ThinkingForm x = new ThinkingForm();
         x.field(0, 9, 0);
