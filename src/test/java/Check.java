@@ -16,6 +16,11 @@ final class Check {
         }
     }
 
+    void same(String what, Object got, Object want) {
+        boolean alike = got.toString().equals(want.toString());
+        due(what + " (" + got + ") are as due (" + want + "):", alike ? 1 : 0, 1);
+    }
+
     void end() {
         System.out.println(name + ": " + calls + " answers, " + wrong + " not as due");
         if (wrong != 0 || calls == 0) {

@@ -13,7 +13,7 @@ final class Document {
     private final boolean[][] quoted = new boolean[PLACES][];
 
     Document() {
-        String text = readFile();
+        String text = text();
         words[0] = plain(between(text, "An object is used", "## The public face") + between(text, "REFUSALS:", "Ahead of the calls"));
         Matcher promise = Pattern.compile("## Promise (\\d+): .*?\n\n`[^`]*`: (.*?)(?=\n## |$)", Pattern.DOTALL).matcher(text);
         while (promise.find()) {
@@ -58,7 +58,7 @@ final class Document {
         return left.toString().trim();
     }
 
-    private static String readFile() {
+    static String text() {
         try {
             return Files.readString(FILE);
         } catch (IOException e) {
@@ -66,7 +66,7 @@ final class Document {
         }
     }
 
-    private static String between(String text, String from, String to) {
+    static String between(String text, String from, String to) {
         int start = text.indexOf(from);
         int end = text.indexOf(to, Math.max(start, 0));
         return start < 0 || end < 0 ? "" : text.substring(start, end);
